@@ -285,7 +285,8 @@ public final class AttributeHouse {
         return number(values.kept[n * MAX_ATTRIBUTES + a]);
     }
 
-    public int change(int n, int literal) throws IllegalStateException, IndexOutOfBoundsException, IllegalArgumentException {
+    public int change(int n, int literal)
+            throws IllegalStateException, IndexOutOfBoundsException, IllegalArgumentException {
         needTree();
         needNode(n);
         if (!grammar.literal[tree.production[n]]) {
@@ -1084,7 +1085,7 @@ public final class AttributeHouse {
                 grew = false;
                 for (int p = 0; p < g.productions; p++) {
                     addInduced(g, p);
-                    close(p);
+                    close(g, p);
                     grew |= collectInduced(g, p);
                 }
             }
@@ -1103,7 +1104,7 @@ public final class AttributeHouse {
             System.arraycopy(g.named, 0, rows, 0, g.productions * SLOTS);
             for (int p = 0; p < g.productions; p++) {
                 addLevels(g, p);
-                close(p);
+                close(g, p);
                 if (hasCircle(p)) {
                     return p;
                 }
@@ -1188,10 +1189,11 @@ public final class AttributeHouse {
             return set;
         }
 
-        private void close(int p) {
+        private void close(Grammar g, int p) {
             int base = p * SLOTS;
-            for (int y = 0; y < SLOTS; y++) {
-                for (int x = 0; x < SLOTS; x++) {
+            int slots = (g.right[p] + 1) * MAX_ATTRIBUTES;
+            for (int y = 0; y < slots; y++) {
+                for (int x = 0; x < slots; x++) {
                     if ((rows[base + x] >>> y & 1) != 0) {
                         rows[base + x] |= rows[base + y];
                     }
