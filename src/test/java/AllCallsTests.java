@@ -79,10 +79,10 @@ public final class AllCallsTests {
         refuseUnderWay("put(1)", Kit.IAE, x -> x.put(1));
         refuseUnderWay("put of a good and a bad sign", Kit.IAE, x -> x.put('p' | 127 << 8));
         refuseUnderWay("put of three good and a bad sign", Kit.IAE, x -> x.put('p' | 'p' << 8 | 'p' << 16 | 128 << 24));
-        refuseUnderWay("Kit.end(-1)", Kit.IAE, x -> Kit.end(x, -1));
-        refuseUnderWay("Kit.end(9)", Kit.IAE, x -> Kit.end(x, 9));
+        refuseUnderWay("end(-1)", Kit.IAE, x -> Kit.end(x, -1));
+        refuseUnderWay("end(9)", Kit.IAE, x -> Kit.end(x, 9));
         refuseAfresh("put(-1)", Kit.IAE, x -> x.put(-1));
-        refuse("Kit.end(1)", Kit.fresh(), Kit.fresh(), Kit.IAE, x -> Kit.end(x, 1));
+        refuse("end(1)", Kit.fresh(), Kit.fresh(), Kit.IAE, x -> Kit.end(x, 1));
     }
 
     @Kit.Of(where = "Terms", sentence = "A call that throws changes nothing.")

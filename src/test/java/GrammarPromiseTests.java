@@ -12,15 +12,15 @@ public final class GrammarPromiseTests {
     static void aNewObject() {
         AttributeHouse x = new AttributeHouse();
         Kit.is("signs", x.put(0), 0);
-        Kit.throwing("Kit.end(1)", Kit.IAE, () -> Kit.end(x, 1));
-        Kit.is("Kit.end(0)", Kit.outcome(() -> Kit.end(x, 0)), "0");
+        Kit.throwing("end(1)", Kit.IAE, () -> Kit.end(x, 1));
+        Kit.is("end(0)", Kit.outcome(() -> Kit.end(x, 0)), "0");
         Kit.is("grammar()", x.grammar(), 0);
         Kit.stateless("a call of a grammar", new AttributeHouse[] {Kit.fresh()}, y -> y.size(0), y -> y.size(1),
                 y -> y.depends(0, 0, 0) ? 1 : 0, y -> y.level(0, -1), y -> y.plan(0, 1, 0), y -> y.store(0, 0),
                 y -> y.visit(0, 1), y -> y.code(0, 0), y -> y.start(0, 1), y -> y.tree());
-        Kit.stateless("a call of a tree", new AttributeHouse[] {Kit.fresh()}, y -> y.count(0), y -> y.node(0, 0), y -> y.value(0, 0),
-                y -> y.change(0, 0), y -> y.begin(), y -> y.step(0), y -> y.machine(0), y -> y.alone(0), y -> y.top(0),
-                y -> y.held(0, 0));
+        Kit.stateless("a call of a tree", new AttributeHouse[] {Kit.fresh()}, y -> y.count(0), y -> y.node(0, 0),
+                y -> y.value(0, 0), y -> y.change(0, 0), y -> y.begin(), y -> y.step(0), y -> y.machine(0),
+                y -> y.alone(0), y -> y.top(0), y -> y.held(0, 0));
         // One object has nothing of another.
         AttributeHouse other = Kit.underWay();
         Kit.stateless("a new object beside another", new AttributeHouse[] {Kit.fresh()}, y -> y.size(0), y -> y.count(0),
@@ -109,24 +109,58 @@ public final class GrammarPromiseTests {
         Kit.is("the grammar stays", x.size(1), 1);
     }
 
+    @Kit.Of(where = "Promise 3", sentence = "The text has its first n signs.")
+    static void nothingBehindTheEndIsRead() {
+        // A name, a number, a word, and blanks are cut.
+        AttributeHouse x = new AttributeHouse();
+        Kit.append(x, "symbol abc;");
+        x.end(9);
+        Kit.append(x, ";p:ab={}");
+        Kit.is("symbol ab", x.grammar(), Kit.NONE);
+        AttributeHouse y = Kit.with(Kit.rule("#"));
+        for (int digits = 6; digits >= 1; digits--) {
+            y.end(0);
+            Kit.append(y, "p 123456");
+            y.end(2 + digits);
+            Kit.is("tree() of " + digits + " digits", y.tree(), Kit.NONE);
+            Kit.is("its literal", y.node(0, 2), Integer.parseInt("123456".substring(0, digits)));
+        }
+        y.end(2);
+        Kit.is("tree() without a literal", y.tree(), 2);
+        y.end(1);
+        Kit.is("tree() without a blank", y.tree(), 1);
+        y.end(0);
+        Kit.is("tree() of nothing", y.tree(), 0);
+        AttributeHouse z = new AttributeHouse();
+        Kit.append(z, "symbol abcdefghi");
+        z.end(15);
+        Kit.is("a name that was too long", z.grammar(), 15);
+        z.end(5);
+        Kit.is("a word that is cut", z.grammar(), 0);
+        AttributeHouse seven = Kit.with(Kit.rule("#"));
+        Kit.is("a number that is too long", Kit.readTree(seven, "p 1234567"), 2);
+        seven.end(8);
+        Kit.is("a number that was too long", seven.tree(), Kit.NONE);
+    }
+
     @Kit.Of(where = "Promise 3", sentence = "IllegalArgumentException if n is below 0 or above how many there are.")
     static void endsThatThereAreNot() {
         AttributeHouse x = new AttributeHouse();
-        Kit.throwing("Kit.end(1) of an empty text", Kit.IAE, () -> Kit.end(x, 1));
+        Kit.throwing("end(1) of an empty text", Kit.IAE, () -> Kit.end(x, 1));
         Kit.append(x, "abcde");
-        Kit.throwing("Kit.end(-1)", Kit.IAE, () -> Kit.end(x, -1));
-        Kit.throwing("Kit.end(6)", Kit.IAE, () -> Kit.end(x, 6));
+        Kit.throwing("end(-1)", Kit.IAE, () -> Kit.end(x, -1));
+        Kit.throwing("end(6)", Kit.IAE, () -> Kit.end(x, 6));
         for (int far : Kit.FAR) {
-            Kit.throwing("Kit.end(" + far + ")", Kit.IAE, () -> Kit.end(x, far));
+            Kit.throwing("end(" + far + ")", Kit.IAE, () -> Kit.end(x, far));
         }
-        Kit.is("Kit.end(5)", Kit.outcome(() -> Kit.end(x, 5)), "0");
-        Kit.is("Kit.end(3)", Kit.outcome(() -> Kit.end(x, 3)), "0");
+        Kit.is("end(5)", Kit.outcome(() -> Kit.end(x, 5)), "0");
+        Kit.is("end(3)", Kit.outcome(() -> Kit.end(x, 3)), "0");
         Kit.throwing("end never goes back", Kit.IAE, () -> Kit.end(x, 4));
         Kit.is("signs", x.put(0), 3);
         AttributeHouse full = new AttributeHouse();
         Kit.append(full, "a".repeat(2400));
-        Kit.throwing("Kit.end(2401) of a full text", Kit.IAE, () -> Kit.end(full, 2401));
-        Kit.is("Kit.end(2400) of a full text", Kit.outcome(() -> Kit.end(full, 2400)), "0");
+        Kit.throwing("end(2401) of a full text", Kit.IAE, () -> Kit.end(full, 2401));
+        Kit.is("end(2400) of a full text", Kit.outcome(() -> Kit.end(full, 2400)), "0");
     }
 
     @Kit.Of(where = "Promise 4", sentence = "Reads the text as a grammar: NONE, and it is the grammar, without a tree;")
@@ -149,6 +183,43 @@ public final class GrammarPromiseTests {
         Kit.is("the least", Kit.readGrammar(z, "symbol a;p:a={}"), Kit.NONE);
         Kit.throwing("the twelfth symbol is gone", Kit.IAE, () -> z.level(11, -1));
         Kit.throwing("the thirtieth production is gone", Kit.IAE, () -> z.start(29, 1));
+    }
+
+    @Kit.Of(where = "Promise 4", sentence = "Reads the text as a grammar: NONE, and it is the grammar, without a tree;")
+    static void nothingIsLeftOfGrammarsBefore() {
+        String[] texts = {Kit.CHAIN, Kit.PAIR, Kit.TWICE, Kit.ERRORS, "symbol a;p:a={}",
+            "symbol a up x;symbol b down d,e up u;q:b={0.u=0.e;}"
+                + "p:a=b b b{0.x=1.u+2.u+3.u;1.d=1;2.d=1.u;3.d=2.u;1.e=1;2.e=2;3.e=3;}",
+            "symbol r up v;symbol s down d up u,w;p:r=s{1.d=1.u;0.v=1.w;}"
+                + "q:s=s{0.u=1;1.d=1.u;0.w=0.d+1.w;}e:s={0.u=1;0.w=0.d;}",
+            "symbol r up a,b;symbol t up u;symbol s up u;o:r=t s{0.a=1.u;0.b=2.u;}e:t={0.u=1;}f:s=t{0.u=2;}",
+            "symbol r up a,b;symbol t up u;symbol s up u;o:r=t s{0.a=1.u;0.b=2.u;}e:t={0.u=1;}f:s={0.u=2;}"};
+        for (String before : texts) {
+            for (String text : texts) {
+                AttributeHouse x = Kit.with(before);
+                Kit.is("a grammar between", Kit.readGrammar(x, "symbol z;z:z={}"), Kit.NONE);
+                Kit.is("grammar()", Kit.readGrammar(x, text), Kit.NONE);
+                Kit.is("the object after " + before, Kit.picture(x), Kit.picture(Kit.with(text)));
+                // A part of a grammar that ends with a fault leaves nothing, either.
+                AttributeHouse y = new AttributeHouse();
+                Kit.readGrammar(y, before.substring(0, before.length() - 1) + "@");
+                Kit.is("grammar()", Kit.readGrammar(y, text), Kit.NONE);
+                Kit.is("the object after a part of " + before, Kit.picture(y), Kit.picture(Kit.with(text)));
+            }
+        }
+    }
+
+    @Kit.Of(where = "Promise 4", sentence = "Reads the text as a grammar: NONE, and it is the grammar, without a tree;")
+    static void largeGrammarsOneAfterAnother() {
+        String text = "symbol r up v;p:r={0.v=1" + "+1".repeat(800) + ";}";
+        AttributeHouse x = Kit.with(text);
+        for (int i = 0; i < 10; i++) {
+            Kit.is("grammar() again", x.grammar(), Kit.NONE);
+            Kit.codeIs(x, 1600, 7, 0, 15, 0, 20, 0);
+            Kit.throwing("code behind it", Kit.IOOBE, () -> x.code(1603, 0));
+        }
+        Kit.fineTree(x, "p");
+        Kit.is("value", x.value(0, 0), 801);
     }
 
     @Kit.Of(where = "Promise 4", sentence = "its fault (below 2401; of a long text it may be a number that is told for a "
@@ -192,7 +263,8 @@ public final class GrammarPromiseTests {
 
     @Kit.Of(where = "Promise 4", sentence = "(If it isn't ordered, all stays as it is.)")
     static void allStaysWithoutAnOrderedGrammar() {
-        String[] texts = {"", "symbol a;", "symbol a up x;symbol b down y,w up z,v;p:a={0.x=1;}q:b={0.z=1;}", Kit.CIRCULAR, Kit.CROSSED};
+        String[] texts = {"", "symbol a;", "symbol a up x;symbol b down y,w up z,v;p:a={0.x=1;}q:b={0.z=1;}",
+            Kit.CIRCULAR, Kit.CROSSED};
         int[] due = {0, 9, 62, 2000, 3000};
         for (int i = 0; i < texts.length; i++) {
             AttributeHouse x = Kit.underWay();

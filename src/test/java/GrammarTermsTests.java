@@ -26,6 +26,14 @@ public final class GrammarTermsTests {
         Kit.fault(full.substring(0, 2399) + "^;");
         Kit.fault(full.substring(0, 2399) + " ^");
         Kit.fault(" ".repeat(2400) + "^");
+        // As many tokens as there can be, and tokens that end with the text.
+        Kit.fault("^" + ";".repeat(2400));
+        for (String last : new String[] {"a", "abcdefgh"}) {
+            Kit.fault("symbol a;p:a={}" + " ".repeat(2385 - last.length()) + last + "^");
+        }
+        for (String last : new String[] {"1", "#", "123456", "abcdefghi", "1234567", "up", "@"}) {
+            Kit.fault("symbol a;p:a={}" + " ".repeat(2385 - last.length()) + "^" + last);
+        }
         AttributeHouse y = new AttributeHouse();
         Kit.append(y, full);
         Kit.throwing("one sign more", Kit.UOE, () -> y.put(' '));
@@ -147,6 +155,28 @@ public final class GrammarTermsTests {
             String fewer = word.substring(1);
             Kit.fine("symbol " + more + " up " + fewer + ";" + more + ":" + more + "={0." + fewer + "=1;}");
         }
+    }
+
+    @Kit.Of(where = "Terms 1", sentence = "The names symbol down up if then else are WORDS; they name nothing.")
+    static void noWordStandsForAnother() {
+        String[] words = {"symbol", "symbol", "down", "up", "if", "then", "else"};
+        String[] behind = {" a;", " b ", " d ", " u;p:a=b{1.d=", " 1 ", " 2 ", " 3;}"};
+        for (int at = 0; at < words.length; at++) {
+            for (String other : words) {
+                StringBuilder text = new StringBuilder();
+                for (int i = 0; i < words.length; i++) {
+                    boolean wrong = i == at && !other.equals(words[i]);
+                    text.append(wrong ? "^" + other : words[i]).append(behind[i]);
+                }
+                if (text.indexOf("^") < 0) {
+                    Kit.fine(text.toString());
+                } else if (!text.toString().contains("b ^up")) {
+                    Kit.fault(text.toString());
+                }
+            }
+        }
+        // Where down can come up can, too; then it can't come again.
+        Kit.fault("symbol a;symbol b up d ^up u;p:a={}");
     }
 
     // Symbols
@@ -341,6 +371,10 @@ public final class GrammarTermsTests {
         Kit.fault("symbol a;symbol b down y;p:a=a b{^(2).y=1;}");
         Kit.fault("symbol a up x;p:a={0.^1=1;}");
         Kit.fault("symbol a up x;p:a={0.^y=1;}");
+        // An attribute is named, not numbered.
+        Kit.fault("symbol a up a,b;p:a={0.^0=1;}");
+        Kit.fault("symbol a up a,b;p:a={0.^1=1;}");
+        Kit.fault("symbol a up a,b;p:a=a{0.a=1.^1;}");
         Kit.fault("symbol a up x;symbol b down y;p:a=b{1.^x=1;}");
     }
 
@@ -573,6 +607,23 @@ public final class GrammarTermsTests {
         Kit.fault("symbol a;symbol b;p:a={}q:a={}^p:b={}");
         Kit.fault("symbol a;" + Kit.productions(29, ":a={}") + "^aa:a={}");
         Kit.fine("symbol a up a;symbol b down a up b;a:a=b{0.a=1.b;1.a=2;}b:b={0.b=0.a;}");
+    }
+
+    @Kit.Of(where = "Terms 1", sentence = "Names of symbols are unlike, and those of productions "
+            + "(a symbol, a production and attributes may be named alike).")
+    static void unlikeNamesAreNeverTakenForOneAnother() {
+        for (String name : new String[] {"aa", "mn", "zz"}) {
+            for (int i = 0; i < 26 * 26; i++) {
+                String other = Kit.name(i);
+                if (!other.equals(name) && !other.equals("if") && !other.equals("up")) {
+                    Kit.fine("symbol " + name + ";symbol " + other + ";p:" + name + "={}");
+                    Kit.fault("symbol " + name + ";p:^" + other + "={}");
+                }
+            }
+            Kit.fault("symbol " + name + ";p:^" + name + "a={}");
+            Kit.fault("symbol " + name + ";p:^a" + name + "={}");
+            Kit.fault("symbol " + name + ";p:^" + name.charAt(0) + "={}");
+        }
     }
 
     @Kit.Of(where = "Terms 1", sentence = "A symbol may have no production.")

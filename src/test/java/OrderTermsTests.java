@@ -147,6 +147,9 @@ public final class OrderTermsTests {
         // By the head's levels, too: 0.v on 1.u, that on 1.d by its level, 1.d on 0.w, that on 0.v by its level.
         Kit.answers("symbol a;symbol b down y,w,x up z,v;symbol c down d,e up u;p:a=b{1.y=1;1.w=1;1.x=1.v;}"
                 + "q:b=c{0.v=1.u;0.z=0.w;1.d=0.w;1.e=0.y;}r:c={0.u=0.e;}", 3001);
+        // The same with w as the head's first attribute.
+        Kit.answers("symbol a;symbol b down w,y,x up z,v;symbol c down d,e up u;p:a=b{1.y=1;1.w=1;1.x=1.v;}"
+                + "q:b=c{0.v=1.u;0.z=0.w;1.d=0.w;1.e=0.y;}r:c={0.u=0.e;}", 3001);
     }
 
     @Kit.Of(where = "Terms 2", sentence = "The grammar is ORDERED if no production is circular or crossed.")
@@ -231,6 +234,69 @@ public final class OrderTermsTests {
         Kit.planIs(x, 1, 1);
     }
 
+    /** Nineteen productions that visit three symbols five times each, and eleven of that symbol, like LONGEST's. */
+    private static String manyVisits() {
+        String three = ":r=s s s{1.b=1;1.d=1;1.f=1;1.h=1;2.b=1;2.d=1;2.f=1;2.h=1;3.b=1;3.d=1;3.f=1;3.h=1;}";
+        StringBuilder text = new StringBuilder("symbol r;symbol s down b,d,f,h up a,c,e,g;");
+        text.append(Kit.productions(18, three)).append("x")
+                .append(three.replace("1.b=1;1.d=1;1.f=1;1.h=1;", "1.b=1.a;1.d=1.c;1.f=1.e;1.h=1.g;"));
+        for (char p = 'a'; p < 'k'; p++) {
+            text.append(p).append(":s={0.a=1;0.c=1;0.e=1;0.g=1;}");
+        }
+        return text.append("y:s={0.a=1;0.c=0.b;0.e=0.d;0.g=0.f;}").toString();
+    }
+
+    private static void entriesAre(String text, int production, int[] at, int[] due) {
+        AttributeHouse x = Kit.with(text);
+        for (int i = 0; i < at.length; i++) {
+            Kit.is("plan(" + production + ", 1, " + at[i] + ")", x.plan(production, 1, at[i]), due[i]);
+        }
+    }
+
+    @Kit.Of(where = "Terms 2", sentence = "A production has a plan for each visit of its head.")
+    static void asManyVisitsAsThereCanBe() {
+        String text = manyVisits();
+        int[] at = {0, 3, 4, 8, 11, 12, 15, 26, 27};
+        entriesAre(text, 0, at, new int[] {20, 23, 30, 40, 43, 1, 1, 3, Kit.NONE});
+        entriesAre(text, 17, at, new int[] {20, 23, 30, 40, 43, 1, 1, 3, Kit.NONE});
+        entriesAre(text, 18, at, new int[] {30, 33, 40, 1, 20, 1, 21, 3, Kit.NONE});
+        entriesAre(text, 19, new int[] {0, 3, 4}, new int[] {14, 17, Kit.NONE});
+        AttributeHouse x = Kit.with(text);
+        for (int v = 1; v < 5; v++) {
+            Kit.planIs(x, 29, v, 13 + v);
+        }
+        Kit.planIs(x, 29, 5);
+        Kit.is("the last instruction", x.code(x.start(29, 5), 0), 20);
+        AttributeHouse again = Kit.with(text);
+        for (int i = 0; i < 5; i++) {
+            Kit.is("grammar() again", again.grammar(), Kit.NONE);
+            Kit.is("the last plan but one", again.plan(29, 4, 0), 17);
+        }
+        // The last of twelve symbols has as many visits as the first of them can have.
+        AttributeHouse last = Kit.with(Kit.symbols(11) + LONGEST.replace("symbol r;", "").replace("r=s", "aa=s"));
+        levelsAre(last, 11, 5, 8, 6, 4, 2, 9, 7, 5, 3);
+        Kit.planIs(last, 0, 1, 1, 20, 1, 21, 1, 22, 1, 23, 1);
+    }
+
+    @Kit.Of(where = "Terms 2", sentence = "A production has a plan for each visit of its head.")
+    static void asManyProductionsAsThereCanBe() {
+        StringBuilder text = new StringBuilder("symbol r up v;symbol s down d up u;");
+        text.append(Kit.productions(15, ":r=s s s{0.v=3.u;1.d=1;2.d=1.u;3.d=2.u;}"));
+        for (int p = 15; p < 30; p++) {
+            text.append(Kit.name(p)).append(":s=s s s{0.u=0.d+3.u;1.d=0.d;2.d=1.u;3.d=2.u;}");
+        }
+        for (int p = 0; p < 15; p++) {
+            AttributeHouse x = Kit.with(text.toString());
+            dependsIs(x, 1, "00", "10");
+            levelsAre(x, 1, 1, 2, 1);
+            Kit.planIs(x, p, 1, 20, 1, 30, 2, 40, 3, 10);
+            Kit.planIs(x, 15 + p, 1, 20, 1, 30, 2, 40, 3, 11);
+            // The last rule that names 0.d is behind those that define d.
+            Kit.is("store of d", x.store(1, 0), 1);
+            Kit.is("store of u", x.store(1, 1), 0);
+        }
+    }
+
     // Stores
 
     @Kit.Of(where = "Terms 2", sentence = "A visit DEFINES, of a symbol, all that its productions' plans of that visit "
@@ -243,6 +309,19 @@ public final class OrderTermsTests {
         Kit.storesAre(head + "y:z={0.u=1;}", 3, 0, 0);
         Kit.storesAre(head + "y:z={0.u=1;}o:z=w{0.u=1.u;}", 3, 0, 0);
         Kit.storesAre(head + "y:z={0.u=1;}o:z=w t{2.d=1;0.u=1.u;}", 3, 1, 0);
+        // The longer way, in both orders; the last symbol and the last production have nothing to do with it.
+        String far = "symbol r up v;symbol a up u;symbol b up u;symbol c up u;symbol d up u;symbol t down d up u;symbol o up u;";
+        String[] way = {"p:r=a t{2.d=1;0.v=1.u+2.u;}", "a:a=b{0.u=1.u;}", "b:b=c{0.u=1.u;}", "c:c=d{0.u=1.u;}",
+            "d:d=t{1.d=2;0.u=1.u;}", "e:t={0.u=0.d;}", "o:o={0.u=1;}"};
+        Kit.storesAre(far + String.join("", way), 5, 1, 0);
+        Kit.storesAre(far + way[4] + way[3] + way[2] + way[1] + way[0] + way[5] + way[6], 5, 1, 0);
+        Kit.storesAre(far + String.join("", way).replace("d:d=t{1.d=2;0.u=1.u;}", "d:d={0.u=1;}"), 5, 0, 0);
+        // What one symbol's visit defines isn't what the visit of the symbol behind it does: w's second and t's first.
+        Kit.storesAre("symbol r up v;symbol w down b up x,y;symbol t down d up u;p:r=w t{1.b=1.x;2.d=1.x;0.v=1.y+2.u;}"
+                + "q:w={0.x=1;0.y=0.b;}e:t={0.u=0.d;}", 1, 0, 0, 0);
+        // What it defines of one symbol isn't what it defines of another: y of w, and u of t, their third ones.
+        Kit.storesAre("symbol r up v;symbol w down b up x,y;symbol t down d up k,u;p:r=t w{1.d=1;2.b=2.x;0.v=1.u;}"
+                + "q:w={0.x=1;0.y=0.b;}e:t={0.k=1;0.u=0.d;}", 2, 0, 0, 0);
         // One visit defines what another one of the same symbol doesn't.
         String twice = "symbol r up v;symbol w down b up x,y;symbol t down d up u;e:t={0.u=0.d;}";
         Kit.storesAre(twice + "p:r=w t{2.d=1;1.b=1.x+2.u;0.v=1.y;}q:w=t{1.d=0.b;0.x=1;0.y=1.u;}", 2, 0, 0);
@@ -259,6 +338,8 @@ public final class OrderTermsTests {
         Kit.storesAre(Kit.TWICE.replace("0.a*0.b", "0.b"), 1, 0, 0, 0, 0);
         // One production of two is enough.
         Kit.storesAre(Kit.TWICE.replace("0.a*0.b", "0.b") + "k:t={0.x=0.a;0.y=0.a+0.b;}", 1, 2, 0, 0, 0);
+        String first = "symbol r up v;symbol t down a,b up x,y;q:t=#{0.x=0.a+#;0.y=0.a*0.b;}p:r=#t{1.a=#;1.b=1.x;0.v=1.y;}";
+        Kit.storesAre(first, 1, 2, 0, 0, 0);
         // e of t is defined in the plan of s's visit 1, t is visited in that of visit 2.
         String head = "symbol r up v;symbol s down d up u,w;symbol t down d,e up w;p:r=s{1.d=1.u;0.v=1.w;}"
                 + "e:t={0.w=0.d+0.e;}";
@@ -315,6 +396,7 @@ public final class OrderTermsTests {
         Kit.storesAre(head + "q:s=s{1.d=0.d;0.u=1.u;}", 1, 0, 0);
         // The visit of 1, which defines u, comes behind 0.u.
         Kit.storesAre(head + "q:s=s{1.d=0.d;0.u=1;}", 1, 0, 1);
+        Kit.storesAre("symbol r up v;symbol s up u;p:r=s{0.v=1.u;}e:s={0.u=1;}q:s=s{0.u=2;}", 1, 1);
         // One that doesn't define it may come behind.
         Kit.storesAre("symbol r up v;symbol s down d up u;symbol z up u;p:r=s{1.d=1;0.v=1.u;}e:s={0.u=0.d;}"
                 + "q:s=z{0.u=1;}k:z={0.u=1;}", 1, 0, 0);

@@ -27,6 +27,16 @@ public final class ProgramTermsTests {
         Kit.throwing("behind the last one", Kit.IOOBE, () -> z.code(19, 0));
     }
 
+    @Kit.Of(where = "Terms 4", sentence = "An attribute that is evaluated: the code of its rule's expression, then a SET of it; "
+            + "an occurrence that is visited: VISIT.")
+    static void entriesBecomeCode() {
+        // The last rule waits for the visit of 1, and comes behind that of 2, which is in the same round.
+        AttributeHouse x = Kit.with("symbol r up v,w;symbol s down d up u;symbol t up u;p:r=s t{0.v=1;1.d=2+3;0.w=1.u;}");
+        Kit.planIs(x, 0, 1, 10, 20, 1, 2, 11);
+        Kit.codeIs(x, 0, 0, 1, 15, 0, 0, 2, 0, 3, 7, 0, 16, 0, 19, 1, 19, 2, 3, 1, 15, 1, 20, 0);
+        Kit.throwing("behind it", Kit.IOOBE, () -> x.code(11, 0));
+    }
+
     @Kit.Of(where = "Terms 4", sentence = "CODE: of a number 0 NUMBER, with it; # 1 LITERAL; an attribute a GET; - ahead: the "
             + "factor's, 6 NEGATE; of two with a sign between the left one's, the right one's, then 7 ADD, "
             + "8 SUBTRACT, 9 MULTIPLY, 10 DIVIDE, 11 BELOW, 12 LIKE;")
@@ -205,6 +215,43 @@ public final class ProgramTermsTests {
         Kit.is("begin when it is over", x.begin(), 0);
         Kit.machineIs(x, 0, 1, 0, 0, 0, 19);
         Kit.is("all 0", x.held(0, 0) + x.alone(2), 0);
+    }
+
+    @Kit.Of(where = "Terms 4", sentence = "behind BACK of another visit of node 0 its next one begins.")
+    static void node0HasOneVisitAlone() {
+        // Nothing of the root is down, so all of it has level 1: there is no other visit of node 0 that could begin.
+        String[][] all = {{Kit.CHAIN, "top(leaf 3)"}, {Kit.TWICE, "p 4(q 3)"}, {Kit.ERRORS, "p(n 1,n 2)"},
+            {"symbol r up a,b;p:r=r r{0.a=1.a+2.b;0.b=2.a;}e:r={0.a=1;0.b=2;}", "p(e,p(e,e))"}, {"symbol r;p:r={}", "p"}};
+        for (String[] one : all) {
+            AttributeHouse x = Kit.begun(one[0], one[1]);
+            Kit.is("visits of the root", x.level(0, -1), 1);
+            int backs = 0;
+            for (int i = 0; i < 100 && x.machine(0) != Kit.NONE; i++) {
+                backs += x.machine(4) == 0 && x.code(x.machine(0), 0) == 20 ? 1 : 0;
+                x.step(1);
+            }
+            Kit.is("BACK of node 0", backs, 1);
+            Kit.is("it is over then", x.machine(1), 0);
+        }
+    }
+
+    @Kit.Of(where = "What it is", sentence = "a plan made by which the attributes of any tree are evaluated, each once.")
+    static void eachAttributeIsEvaluatedOnce() {
+        String[][] all = {{Kit.CHAIN, "top(more(leaf 3))"}, {Kit.PAIR, "top(pair(leaf 1,leaf 2))"}, {Kit.TWICE, "p 4(q 3)"},
+            {Kit.LISTS, "root(one(zero),one(zero))"}};
+        for (String[] one : all) {
+            AttributeHouse x = Kit.begun(one[0], one[1]);
+            int sets = 0;
+            int visits = 0;
+            for (int place = x.machine(0); place != Kit.NONE; place = x.machine(0)) {
+                int kind = x.code(place, 0);
+                sets += kind >= 15 && kind <= 18 ? 1 : 0;
+                visits += kind == 20 ? 1 : 0;
+                x.step(1);
+            }
+            Kit.is("attributes set", sets, x.count(1));
+            Kit.is("visits ended", visits, x.count(2));
+        }
     }
 
     @Kit.Of(where = "Terms 4", sentence = "An instruction's values go from the stack and come to it as its name says:")

@@ -23,6 +23,26 @@ public final class TreePromiseTests {
         Kit.fineTree(x, "p");
     }
 
+    @Kit.Of(where = "Promise 10", sentence = "Reads the text as a tree: NONE, and it is the tree; or its fault (the tree "
+            + "before stays, and its machine).")
+    static void nothingIsLeftOfTreesBefore() {
+        String grammar = "symbol r up v;p:r=#r r{0.v=1.v-2.v*#;}q:r=r{0.v=1.v/2;}e:r=#{0.v=#;}o:r={0.v=7;}";
+        String[] texts = {"o", "e 5", "q(e -4)", "p 9(e 1,o)", "p 3(q(p 4(o,e 6)),q(o))", "q(q(q(o)))"};
+        for (String before : texts) {
+            for (String text : texts) {
+                AttributeHouse x = Kit.with(grammar, before);
+                Kit.fineTree(x, "o");
+                Kit.fineTree(x, text);
+                Kit.is("the object after " + before, Kit.picture(x), Kit.picture(Kit.with(grammar, text)));
+                // A tree that ends with a fault leaves nothing, either.
+                AttributeHouse y = Kit.with(grammar);
+                Kit.treeFault(y, before + "^@");
+                Kit.fineTree(y, text);
+                Kit.is("the object after a fault of " + before, Kit.picture(y), Kit.picture(Kit.with(grammar, text)));
+            }
+        }
+    }
+
     @Kit.Of(where = "Promise 10", sentence = "(the tree before stays, and its machine)")
     static void aFaultLeavesTheTreeBefore() {
         for (String marked : new String[] {"^", "^@", "p 4(^x)", "p^", "p 4(q 3)^)", "p 4(q 3^", "p 5(q ^q"}) {
