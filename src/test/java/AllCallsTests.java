@@ -1,9 +1,12 @@
 import java.lang.reflect.Constructor;
+import java.lang.reflect.Executable;
+import java.lang.reflect.Field;
+import java.lang.reflect.Member;
 import java.lang.reflect.Method;
 import java.lang.reflect.Modifier;
 import java.util.Arrays;
-import java.util.List;
 import java.util.TreeSet;
+import java.util.stream.Collectors;
 
 /** A test for each sentence that the document says of its face and of all calls. */
 public final class AllCallsTests {
@@ -13,25 +16,80 @@ public final class AllCallsTests {
 
     // The face, and what is said of all calls
 
-    @Kit.Of(where = "The public face", sentence = "public final class AttributeHouse {")
+    private static final String FACE = """
+            public final class AttributeHouse {
+                public static final int NONE = -1;
+                public AttributeHouse();
+                public int put(int signs) throws IllegalArgumentException, UnsupportedOperationException;
+                public void end(int n) throws IllegalArgumentException;
+                public int grammar();
+                public int size(int what) throws IllegalStateException, IllegalArgumentException;
+                public boolean depends(int symbol, int a, int b) throws IllegalStateException, IllegalArgumentException;
+                public int level(int symbol, int a) throws IllegalStateException, IllegalArgumentException;
+                public int plan(int production, int visit, int i) throws IllegalStateException, IllegalArgumentException;
+                public int store(int symbol, int a) throws IllegalStateException, IllegalArgumentException;
+                public int tree() throws IllegalStateException;
+                public int count(int what) throws IllegalStateException, IllegalArgumentException;
+                public int node(int n, int what) throws IllegalStateException, IndexOutOfBoundsException, IllegalArgumentException;
+                public int value(int n, int a) throws IllegalStateException, IndexOutOfBoundsException, ArithmeticException;
+                public int change(int n, int literal) throws IllegalStateException, IndexOutOfBoundsException, IllegalArgumentException;
+                public int visit(int symbol, int visit) throws IllegalStateException, IllegalArgumentException;
+                public int code(int i, int what) throws IllegalStateException, IndexOutOfBoundsException, IllegalArgumentException;
+                public int start(int production, int visit) throws IllegalStateException, IllegalArgumentException;
+                public int begin() throws IllegalStateException;
+                public int step(int n) throws IllegalStateException, IllegalArgumentException;
+                public int machine(int what) throws IllegalStateException, IllegalArgumentException;
+                public int alone(int k) throws IllegalStateException, IndexOutOfBoundsException, ArithmeticException;
+                public int top(int k) throws IllegalStateException, IndexOutOfBoundsException, ArithmeticException;
+                public int held(int node, int a) throws IllegalStateException, IndexOutOfBoundsException, IllegalArgumentException, ArithmeticException;
+            }
+            """;
+
+    @Kit.Of(where = "The public face", sentence = FACE)
     static void theFaceAndNothingElse() {
-        Kit.is("final", Modifier.isFinal(AttributeHouse.class.getModifiers()), true);
-        Kit.is("public", Modifier.isPublic(AttributeHouse.class.getModifiers()), true);
-        TreeSet<String> names = new TreeSet<>();
-        for (Method m : AttributeHouse.class.getDeclaredMethods()) {
-            if (!Modifier.isPrivate(m.getModifiers()) && !m.isSynthetic()) {
-                names.add(m.getReturnType() + " " + m.getName() + m.getParameterCount());
+        TreeSet<String> due = new TreeSet<>();
+        for (String line : FACE.replaceAll("[;{}]", "").split("\n")) {
+            // The names of what a call takes are free.
+            due.add(line.trim().replaceAll("int [a-z]+(?=[,)])", "int"));
+        }
+        due.remove("");
+        Kit.is("the face", String.join("\n  ", faceOfTheClass()), String.join("\n  ", due));
+    }
+
+    /** All that isn't private, in the form in which the document has it. */
+    private static TreeSet<String> faceOfTheClass() {
+        Class<?> its = AttributeHouse.class;
+        TreeSet<String> found = new TreeSet<>();
+        found.add(Modifier.toString(its.getModifiers()) + " class " + its.getName());
+        for (Field f : its.getDeclaredFields()) {
+            if (isSeen(f)) {
+                found.add(Modifier.toString(f.getModifiers()) + " " + f.getType() + " " + f.getName() + " = "
+                        + AttributeHouse.NONE);
             }
         }
-        List<String> due = Arrays.asList("int alone1", "int begin0", "int change2", "int code2", "int count1",
-                "boolean depends3", "void end1", "int grammar0", "int held2", "int level2", "int machine1", "int node2",
-                "int plan3", "int put1", "int size1", "int start2", "int step1", "int store2", "int top1", "int tree0",
-                "int value2", "int visit2");
-        Kit.is("its methods", names.toString(), new TreeSet<>(due).toString());
-        Kit.is("its public fields", AttributeHouse.class.getFields().length, 1);
-        Constructor<?>[] constructors = AttributeHouse.class.getConstructors();
-        Kit.is("its constructors", constructors.length, 1);
-        Kit.is("what it takes", constructors[0].getParameterCount(), 0);
+        for (Constructor<?> c : its.getDeclaredConstructors()) {
+            found.add(Modifier.toString(c.getModifiers()) + " " + c.getName() + calledWith(c));
+        }
+        for (Method m : its.getDeclaredMethods()) {
+            if (isSeen(m)) {
+                found.add(Modifier.toString(m.getModifiers()) + " " + m.getReturnType() + " " + m.getName() + calledWith(m));
+            }
+        }
+        return found;
+    }
+
+    private static boolean isSeen(Member member) {
+        return !Modifier.isPrivate(member.getModifiers()) && !member.isSynthetic();
+    }
+
+    private static String calledWith(Executable call) {
+        String takes = names(call.getParameterTypes());
+        String throwing = names(call.getExceptionTypes());
+        return "(" + takes + ")" + (throwing.isEmpty() ? "" : " throws " + throwing);
+    }
+
+    private static String names(Class<?>[] types) {
+        return Arrays.stream(types).map(Class::getSimpleName).collect(Collectors.joining(", "));
     }
 
     @Kit.Of(where = "Terms", sentence = "The constants: `NONE = -1`: There is none.")

@@ -1024,9 +1024,12 @@ public final class ReferenceTests {
 
     private static final class Maker {
         final Random random;
+        /** Down and up come by turns then, and most rules name the one ahead: so symbols have many visits. */
+        private boolean chained;
 
         Maker(long seed) {
-            random = new Random(seed);
+            // Seeds that are near one another begin alike: spread, they don't.
+            random = new Random(seed * 0x9E3779B97F4A7C15L);
         }
 
         int below(int n) {
@@ -1039,14 +1042,15 @@ public final class ReferenceTests {
 
         /** A grammar in which most rules follow an order of each symbol's attributes, so that many are ordered. */
         String grammar() {
+            chained = below(4) == 0;
             int n = below(20) == 0 ? 1 : 2 + below(below(6) == 0 ? 11 : 3);
-            int most = below(6) == 0 ? 8 : 2 + below(5);
+            int most = chained || below(6) == 0 ? 8 : 2 + below(5);
             StringBuilder text = new StringBuilder();
             int[] downs = new int[n];
             List<List<Integer>> orders = new ArrayList<>();
             for (int s = 0; s < n; s++) {
-                int count = below(most + 1);
-                downs[s] = s == 0 ? 0 : below(count + 1);
+                int count = chained ? most - below(4) : below(most + 1);
+                downs[s] = s == 0 ? 0 : chained ? (count + below(2)) / 2 : below(count + 1);
                 List<Integer> order = new ArrayList<>();
                 text.append("symbol ").append((char) ('a' + s));
                 for (int a = 0; a < count; a++) {
@@ -1055,7 +1059,7 @@ public final class ReferenceTests {
                     order.add(below(order.size() + 1), a);
                 }
                 text.append(below(3) == 0 ? ";\n" : ";");
-                orders.add(order);
+                orders.add(chained ? byTurns(order, downs[s]) : order);
             }
             int number = 0;
             for (int s = 0; s < n; s++) {
@@ -1066,6 +1070,22 @@ public final class ReferenceTests {
                 }
             }
             return text.toString();
+        }
+
+        /** The same attributes, down and up by turns as long as there are both. */
+        private List<Integer> byTurns(List<Integer> order, int downs) {
+            List<Integer> left = new ArrayList<>(order);
+            List<Integer> turned = new ArrayList<>();
+            boolean down = below(2) == 0;
+            while (!left.isEmpty()) {
+                int at = 0;
+                while (at < left.size() - 1 && left.get(at) < downs != down) {
+                    at++;
+                }
+                turned.add(left.remove(at));
+                down = !down;
+            }
+            return turned;
         }
 
         private void production(StringBuilder text, int number, int head, int right, int n, int[] downs,
@@ -1082,21 +1102,43 @@ public final class ReferenceTests {
             text.append('{');
             List<Slot> merged = merge(symbols, orders);
             List<String> rules = new ArrayList<>();
-            boolean wild = below(8) == 0;
+            int order = below(8);
             for (int i = 0; i < merged.size(); i++) {
                 Slot x = merged.get(i);
                 if (defines(symbols, downs, x)) {
-                    List<Slot> usable = new ArrayList<>();
-                    for (Slot y : wild ? merged : merged.subList(0, i)) {
-                        if (!defines(symbols, downs, y)) {
-                            usable.add(y);
-                        }
-                    }
-                    rules.add(below(rules.size() + 1), spell(x) + "=" + expression(usable, literal, 0) + ";");
+                    List<Slot> usable = usable(merged, i, order);
+                    usable.removeIf(y -> defines(symbols, downs, y));
+                    String link = link(x, usable);
+                    rules.add(below(rules.size() + 1), spell(x) + "=" + link + (link.isEmpty()
+                            ? expression(usable, literal, 0) : factor(usable, literal, 0)) + ";");
                 }
             }
             rules.forEach(text::append);
             text.append(below(2) == 0 ? "}\n" : "}");
+        }
+
+        /**
+         * What the rule of an attribute may name: with 0 all, so that many are circular; with 1 of one occurrence
+         * behind = all that others have there, so that some are crossed; else what is ahead of it.
+         */
+        private List<Slot> usable(List<Slot> merged, int i, int order) {
+            Slot x = merged.get(i);
+            List<Slot> found = new ArrayList<>(order == 0 || order == 1 && x.occurrence > 0 ? merged : merged.subList(0, i));
+            if (order == 1 && x.occurrence > 0) {
+                found.removeIf(y -> y.occurrence == 0 || y.occurrence == x.occurrence);
+            }
+            return found;
+        }
+
+        /** Names the last one ahead of the same occurrence, where rules are chained. */
+        private String link(Slot x, List<Slot> usable) {
+            String last = "";
+            for (Slot y : usable) {
+                if (chained && y.occurrence == x.occurrence) {
+                    last = spell(y);
+                }
+            }
+            return last.isEmpty() || below(8) == 0 ? "" : last + one(List.of("+", "-", "*"));
         }
 
         private boolean defines(List<Integer> symbols, int[] downs, Slot x) {
@@ -1487,7 +1529,7 @@ public final class ReferenceTests {
         }
         System.out.println(checks + " checks, " + wrong + " wrong, " + seen);
         for (String due : List.of("ordered", "circular", "crossed", "fault", "visits 1", "visits 2", "visits 3",
-                "down of store 0", "down of store 1", "down of store 2", "up of store 0", "up of store 1",
+                "visits 4", "visits 5", "down of store 0", "down of store 1", "down of store 2", "up of store 0", "up of store 1",
                 "up of store 2", "tree", "fault of a tree", "tree with errors", "tree without errors", "change")) {
             if (seen.getOrDefault(due, 0) < 20) {
                 System.out.println("not met often enough: " + due);
