@@ -107,7 +107,8 @@ public final class LanguageTests {
             checks++;
             if (!fine) {
                 wrong++;
-                System.out.println("rule " + rule + ", line " + line(places.getStartPosition(unit, where)) + ": " + what);
+                long line = line(places.getStartPosition(unit, where));
+                System.out.println("rule " + rule + ", line " + line + ": " + what);
             }
         }
 
@@ -145,8 +146,8 @@ public final class LanguageTests {
             Element its = element();
             boolean isOuter = its.getEnclosingElement().getKind() == ElementKind.PACKAGE;
             Set<Modifier> modifiers = its.getModifiers();
-            need(1, tree, isOuter ? modifiers.contains(Modifier.PUBLIC) && modifiers.contains(Modifier.FINAL)
-                    : modifiers.contains(Modifier.STATIC) && modifiers.contains(Modifier.PRIVATE), "a class's modifiers");
+            need(1, tree, modifiers.contains(isOuter ? Modifier.PUBLIC : Modifier.PRIVATE), "who sees a class");
+            need(1, tree, modifiers.contains(isOuter ? Modifier.FINAL : Modifier.STATIC), "a class's modifiers");
             need(2, tree, isOuter || its.getEnclosingElement().getKind() == ElementKind.CLASS, "a class in a method");
             int fields = 0;
             for (Tree member : tree.getMembers()) {
@@ -167,9 +168,9 @@ public final class LanguageTests {
                 need(5, tree, its.getModifiers().contains(Modifier.FINAL), "a static field that isn't final");
                 need(5, tree, !(its.asType() instanceof ArrayType), "a static array");
             }
-            if (its.getKind() == ElementKind.FIELD && its.getEnclosingElement().getSimpleName().contentEquals("AttributeHouse")) {
-                need(1, tree, its.getModifiers().contains(Modifier.PRIVATE) || its.getSimpleName().contentEquals("NONE"),
-                        "a field that isn't private");
+            if (its.getKind() == ElementKind.FIELD && isOuter(its)) {
+                boolean isConstant = its.getSimpleName().contentEquals("NONE");
+                need(1, tree, isConstant || its.getModifiers().contains(Modifier.PRIVATE), "a field that isn't private");
             }
             return super.visitVariable(tree, none);
         }
@@ -193,14 +194,21 @@ public final class LanguageTests {
             calls.putIfAbsent(its, new LinkedHashSet<>());
             need(3, tree, isAllowed(its.getReturnType()), "an answer of type " + its.getReturnType());
             need(11, tree, tree.getParameters().size() <= MOST_PARAMETERS, "parameters");
-            long lines = line(places.getEndPosition(unit, tree)) - line(Math.max(0, places.getStartPosition(unit, tree))) + 1;
-            need(11, tree, its.getKind() == ElementKind.CONSTRUCTOR || lines <= MOST_LINES, tree.getName() + ": " + lines + " lines");
+            need(11, tree, lines(tree) <= MOST_LINES, tree.getName() + ": " + lines(tree) + " lines");
             if (its.getKind() == ElementKind.METHOD) {
                 boolean isPublic = its.getModifiers().contains(Modifier.PUBLIC);
                 (isPublic ? publicNames : privateNames).add(its.getSimpleName().toString());
-                need(1, tree, isPublic == (isOuter(its) && !its.getModifiers().contains(Modifier.PRIVATE)), "who sees a method");
+                boolean isSeen = isOuter(its) && !its.getModifiers().contains(Modifier.PRIVATE);
+                need(1, tree, isPublic == isSeen, "who sees a method");
             }
             return super.visitMethod(tree, none);
+        }
+
+        private long lines(MethodTree tree) {
+            long from = places.getStartPosition(unit, tree);
+            long to = places.getEndPosition(unit, tree);
+            // A constructor that isn't written has no end.
+            return to < 0 ? 0 : line(to) - line(from) + 1;
         }
 
         private boolean isOuter(Element member) {
@@ -216,13 +224,14 @@ public final class LanguageTests {
 
         private void noteCall(Tree where, Element called) {
             if (isOwn(called)) {
-                need(8, where, methodAround() != null || called.getKind() == ElementKind.CONSTRUCTOR, "a call outside of methods");
+                need(8, where, methodAround() != null, "a call outside of methods");
                 if (methodAround() != null) {
                     Element caller = trees.getElement(trees.getPath(unit, methodAround()));
                     calls.computeIfAbsent(caller, k -> new LinkedHashSet<>()).add(called);
                 }
             } else {
-                String name = ((TypeElement) called.getEnclosingElement()).getQualifiedName() + "." + called.getSimpleName();
+                TypeElement owner = (TypeElement) called.getEnclosingElement();
+                String name = owner.getQualifiedName() + "." + called.getSimpleName();
                 need(4, where, LIBRARY.contains(name), name);
             }
         }
@@ -235,7 +244,8 @@ public final class LanguageTests {
                 noteCall(tree, made);
                 need(12, tree, isInConstructor(), "an object made by a call");
             } else {
-                need(6, tree, getCurrentPath().getParentPath().getLeaf() instanceof ThrowTree, "an object of the library");
+                Tree around = getCurrentPath().getParentPath().getLeaf();
+                need(6, tree, around instanceof ThrowTree, "an object of the library");
             }
             return super.visitNewClass(tree, none);
         }
